@@ -366,13 +366,20 @@ public final class RangeArenas {
         int given = 0;
         for (int i = 1; i <= arena.cached; i++) {
             Cache of = arena.cacheOf(i);
-            if (of != null) {
-                layAll(arena, of, of.left.loaded);
-                layAll(arena, of, of.left.spare);
-                layAll(arena, of, of.right.loaded);
-                layAll(arena, of, of.right.spare);
-                layAll(arena, of, of.depot);
-                given += releaseIdleSlabs(arena, of);
+            if (of == null) {
+                return given;
+            }
+            layAll(arena, of, of.left.loaded);
+            layAll(arena, of, of.left.spare);
+            layAll(arena, of, of.right.loaded);
+            layAll(arena, of, of.right.spare);
+            layAll(arena, of, of.depot);
+            // the lowest one is looked for anew each time, as a merge may end the segment that stood behind
+            Segment idle = arena.idleSlab(of);
+            while (idle != null && given < HOUSE_TAGS) {
+                release(arena, idle);
+                given++;
+                idle = arena.idleSlab(of);
             }
         }
         return given;
@@ -386,18 +393,6 @@ public final class RangeArenas {
                 home.lay(home.objectAt(base));
             }
         }
-    }
-
-    /** Looks for the lowest one anew each time, as a merge may end the segment that stood behind. */
-    private static int releaseIdleSlabs(Arena arena, Cache of) {
-        int given = 0;
-        Segment idle = arena.idleSlab(of);
-        while (idle != null && given < HOUSE_TAGS) {
-            release(arena, idle);
-            given++;
-            idle = arena.idleSlab(of);
-        }
-        return given;
     }
 
     /** A range of an arena, in a chain by bases. It bears its SPAN's range, so that a SPAN needs no object. */
@@ -436,10 +431,6 @@ public final class RangeArenas {
             return owner == SLAB && objectSize == of.objectSize;
         }
 
-        boolean isIdleSlabOf(Cache of) {
-            return isSlabOf(of) && Integer.bitCount(lying) == objects;
-        }
-
         void fill(int sizeOfObjects) {
             objectSize = sizeOfObjects;
             objects = sizeOfObjects > 0 ? Math.min(size / sizeOfObjects, MOST_OBJECTS) : 0;
@@ -461,7 +452,7 @@ public final class RangeArenas {
         }
 
         boolean isHeld(int object) {
-            return object >= 0 && (held >>> object & 1) == 1;
+            return object >= 0 && ((held >>> object) & 1) == 1;
         }
 
         void hold(int object) {
@@ -902,9 +893,10 @@ public final class RangeArenas {
             return null;
         }
 
+        /** The lowest SLAB in which all of its OBJECTS lie. */
         Segment idleSlab(Cache of) {
             for (Segment s = first; s != null; s = s.behind) {
-                if (s.isIdleSlabOf(of)) {
+                if (s.isSlabOf(of) && Integer.bitCount(s.lying) == s.objects) {
                     return s;
                 }
             }
