@@ -1,5 +1,6 @@
 import java.util.ArrayDeque;
 import java.util.ArrayList;
+import java.util.Arrays;
 import java.util.Comparator;
 import java.util.HashMap;
 import java.util.List;
@@ -486,7 +487,7 @@ public final class ModelTest {
     }
 
     /** The exact class is told, so that the machine's own exceptions (subclasses) never pass for the document's. */
-    static String onClass(RangeArenas x, int call, int[] v) {
+    static String onClass(Watched x, int call, int[] v) {
         try {
             switch (call) {
                 case 0: return "" + x.make(v[0], v[1], v[2]);
@@ -509,10 +510,11 @@ public final class ModelTest {
     }
 
     static final class Play {
-        final RangeArenas x = new RangeArenas();
+        final Watched x = new Watched();
         final Model m = new Model();
         final String name;
         final List<String> log = new ArrayList<>();
+        final List<int[]> done = new ArrayList<>();
         boolean broken = false;
         int least = 600;
         long seed;
@@ -528,38 +530,70 @@ public final class ModelTest {
             return (int) ((seed >>> 33) % n);
         }
 
-        String call(int call, int... v) {
-            if (broken) return "";
+        static String told(int call, int[] v) {
             StringBuilder t = new StringBuilder(NAMES[call]).append('(');
             for (int i = 0; i < v.length; i++) t.append(i == 0 ? "" : ", ").append(v[i]);
-            t.append(')');
+            return t.append(')').toString();
+        }
+
+        void call(int call, int... v) {
+            if (broken) return;
+            compare(x, call, v);
+            int[] made = new int[v.length + 1];
+            made[0] = call;
+            System.arraycopy(v, 0, made, 1, v.length);
+            done.add(made);
+        }
+
+        void compare(Watched on, int call, int[] v) {
             String due = onModel(m, call, v);
-            String got = onClass(x, call, v);
+            String got = onClass(on, call, v);
+            String t = told(call, v);
             log.add(t + " = " + due);
             seen[call][due.equals("-2") ? 2 : due.equals("-1") ? 1 : due.startsWith("java") ? 3 : 0]++;
+            least = Math.min(least, m.tags());
             if (!due.equals(got)) {
                 broken = true;
                 wrong++;
                 System.out.println(name + ": call " + log.size() + ", " + t + " answered " + got + ", due is " + due);
                 for (int i = Math.max(0, log.size() - 12); i < log.size(); i++) System.out.println("    " + log.get(i));
             }
-            return due;
         }
 
-        void compareAll() {
-            call(8);
-            least = Math.min(least, m.tags());
-            for (int a = 0; a < m.ars.size() && !broken; a++) {
-                for (int w = 0; w < 15; w++) call(9, a, w);
+        List<int[]> questions() {
+            List<int[]> all = new ArrayList<>();
+            all.add(new int[] {8});
+            for (int a = 0; a < m.ars.size(); a++) {
+                for (int w = -1; w < 16; w++) all.add(new int[] {9, a, w});
                 int n = m.all(m.ars.get(a)).size();
-                for (int i = 0; i <= n; i++) for (int w = 0; w < 8; w++) call(10, a, i, w);
-                for (int i = 1; i <= m.ars.get(a).cached; i++) for (int w = 0; w < 10; w++) call(11, a, i, w);
+                for (int i = 0; i <= n; i++) for (int w = 0; w < 8; w++) all.add(new int[] {10, a, i, w});
+                for (int i = 1; i <= m.ars.get(a).cached; i++) for (int w = 0; w < 10; w++) all.add(new int[] {11, a, i, w});
                 for (Seg s : m.all(m.ars.get(a))) {
-                    call(12, a, s.base);
-                    call(12, a, s.base + s.size - 1);
-                    call(12, a, s.base - 1);
-                    call(12, a, s.base + s.size);
-                    call(12, a, s.base + dice(s.size));
+                    int[] numbers = {s.base, s.base + s.size - 1, s.base - 1, s.base + s.size, s.base + dice(s.size)};
+                    for (int number : numbers) all.add(new int[] {12, a, number});
+                }
+            }
+            return all;
+        }
+
+        Watched again() {
+            Watched fresh = new Watched();
+            for (int[] c : done) onClass(fresh, c[0], Arrays.copyOfRange(c, 1, c.length));
+            return fresh;
+        }
+
+        /** Asks on fresh objects that have gone the same calls, as nothing is promised beyond an object's 512th. */
+        void compareAll(int objects) {
+            List<int[]> questions = questions();
+            for (int n = 0; n < objects && !broken && !questions.isEmpty(); n++) {
+                Watched fresh = again();
+                while (fresh.callsLeft() > 0 && !broken && !questions.isEmpty()) {
+                    int last = questions.size() - 1;
+                    int at = dice(questions.size());
+                    int[] q = questions.get(at);
+                    questions.set(at, questions.get(last));
+                    questions.remove(last);
+                    compare(fresh, q[0], Arrays.copyOfRange(q, 1, q.length));
                 }
             }
         }
@@ -643,18 +677,15 @@ public final class ModelTest {
     }
 
     public static void main(String[] args) {
-        int runs = args.length > 0 ? Integer.parseInt(args[0]) : 1500;
+        int runs = args.length > 0 ? Integer.parseInt(args[0]) : 4000;
         int[][] seen = new int[NAMES.length][5];
         int least = 600;
         for (int run = 0; run < runs && wrong < 5; run++) {
             Play p = new Play("run " + run, run);
             setUp(p, run);
-            int length = 40 + p.dice(470);
-            for (int i = 0; i < length && !p.broken; i++) {
-                step(p, run / 3);
-                if (i % 37 == 0) p.compareAll();
-            }
-            p.compareAll();
+            int length = 10 + p.dice(430);
+            for (int i = 0; i < length && !p.broken; i++) step(p, run / 3);
+            p.compareAll(12);
             least = Math.min(least, p.least);
             for (int i = 0; i < seen.length; i++) for (int k = 0; k < 5; k++) seen[i][k] += p.seen[i][k];
         }

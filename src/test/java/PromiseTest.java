@@ -1,102 +1,10 @@
-import java.util.NoSuchElementException;
-
 /** Each promise of DOC.md by number: ordinary calls, the edges that it names, wrong inputs. */
-public final class PromiseTest {
-    private static final int NONE = RangeArenas.NONE;
-    private static final int FULL = -2;
-    private static final int TOP = 1073741824;
-    private static final int MAX = Integer.MAX_VALUE;
-    private static final int MIN = Integer.MIN_VALUE;
-    private static int wrong = 0;
-    private static int checks = 0;
-    private static int promise = 0;
-
-    private interface Call {
-        void run();
-    }
-
-    private static void is(String what, long got, long due) {
-        checks++;
-        if (got != due) {
-            wrong++;
-            System.out.println("promise " + promise + ": " + what + " is " + got + ", due is " + due);
-        }
-    }
-
-    /** The exact class: one of the machine's own, such as ArrayIndexOutOfBoundsException, is wrong. */
-    private static void fails(String what, Class<?> due, Call call) {
-        checks++;
-        Class<?> got = null;
-        try {
-            call.run();
-        } catch (RuntimeException e) {
-            got = e.getClass();
-        }
-        if (got != due) {
-            wrong++;
-            System.out.println("promise " + promise + ": " + what + " throws " + got + ", due is " + due);
-        }
-    }
-
-    private static void illegal(String what, Call call) {
-        fails(what, IllegalArgumentException.class, call);
-    }
-
-    private static void noArena(String what, Call call) {
-        fails(what, IndexOutOfBoundsException.class, call);
-    }
-
-    private static void noSuch(String what, Call call) {
-        fails(what, NoSuchElementException.class, call);
-    }
-
-    /** base, size, whose, for each segment of an arena. */
-    private static void segments(RangeArenas x, int arena, int... due) {
-        is("count of segments", x.count(arena, 4), due.length / 3);
-        for (int i = 0; i < due.length; i++) {
-            int n = i / 3;
-            if (n < x.count(arena, 4)) {
-                is("segment " + n + "'s " + i % 3, x.segment(arena, n, i % 3), due[i]);
-            }
-        }
-    }
-
-    private static void counts(RangeArenas x, int arena, int... due) {
-        for (int what = 0; what < due.length; what++) {
-            is("count " + what + " of arena " + arena, x.count(arena, what), due[what]);
-        }
-    }
-
-    private static void caches(RangeArenas x, int arena, int i, int... due) {
-        for (int what = 0; what < due.length; what++) {
-            is("cache " + i + " of arena " + arena + ", " + what, x.cache(arena, i, what), due[what]);
-        }
-    }
-
-    private static RangeArenas one(int quantum, int cached, int... spans) {
-        RangeArenas x = new RangeArenas();
-        x.make(quantum, NONE, cached);
-        for (int i = 0; i + 1 < spans.length; i += 2) {
-            is("add", x.add(0, spans[i], spans[i + 1]), 0);
-        }
-        return x;
-    }
-
-    /** Takes single numbers from arena 0 until tags are below 40. */
-    private static int fillTags(RangeArenas x) {
-        int taken = 0;
-        while (taken < 600 && x.tags() >= 40) {
-            x.take(0, 1, 0, 0);
-            taken++;
-        }
-        return taken;
-    }
-
+public final class PromiseTest extends Checks {
     // ---------------------------------------------------------------- 1 to 3
 
     private static void newObject() {
-        promise = 1;
-        RangeArenas x = new RangeArenas();
+        sentence("promise 1");
+        Watched x = new Watched();
         is("NONE", RangeArenas.NONE, -1);
         is("tags", x.tags(), 600);
         for (int n : new int[] {0, 1, 7, 8, -1, MAX, MIN}) {
@@ -112,14 +20,14 @@ public final class PromiseTest {
             noArena("cache", () -> x.cache(n, 1, 0));
             noArena("where", () -> x.where(n, 0));
         }
-        RangeArenas y = new RangeArenas();
+        Watched y = new Watched();
         x.make(1, NONE, 0);
         noArena("another object has its own arenas", () -> y.count(0, 0));
     }
 
     private static void make() {
-        promise = 2;
-        RangeArenas x = new RangeArenas();
+        sentence("promise 2");
+        Watched x = new Watched();
         for (int q : new int[] {0, -1, 3, 6, 65535, 131072, TOP, MIN, MAX}) {
             illegal("quantum " + q, () -> x.make(q, NONE, 0));
         }
@@ -148,8 +56,8 @@ public final class PromiseTest {
     }
 
     private static void add() {
-        promise = 3;
-        RangeArenas x = one(4, 0);
+        sentence("promise 3");
+        Watched x = one(4, 0);
         x.make(4, 0, 0);
         is("span", x.add(0, 100, 40), 0);
         segments(x, 0, 100, 40, 0);
@@ -177,7 +85,7 @@ public final class PromiseTest {
         illegal("size below 0", () -> x.add(0, 200, -4));
         illegal("size MIN", () -> x.add(0, 200, MIN));
         illegal("in an arena with a source", () -> x.add(1, 2, 4));
-        RangeArenas y = one(1, 0, 0, TOP);
+        Watched y = one(1, 0, 0, TOP);
         is("all numbers", y.count(0, 6), TOP);
         is("all numbers in one list", y.segment(0, 0, 3), 30);
         is("nothing more", y.add(0, TOP - 1, 1), NONE);
@@ -185,7 +93,7 @@ public final class PromiseTest {
     }
 
     private static void addWhenFull() {
-        RangeArenas x = one(1, 0);
+        Watched x = one(1, 0);
         for (int i = 0; i < 280; i++) {
             is("span " + i, x.add(0, 2 * i, 1), 0);
         }
@@ -202,7 +110,7 @@ public final class PromiseTest {
     // ---------------------------------------------------------------- 4 and 5
 
     private static void take() {
-        promise = 4;
+        sentence("promise 4");
         takeBest();
         takeInstant();
         takeNext();
@@ -211,7 +119,7 @@ public final class PromiseTest {
         takeOut();
         takeOutFails();
         takeWhenFull();
-        RangeArenas x = one(8, 2, 0, 800);
+        Watched x = one(8, 2, 0, 800);
         for (int s : new int[] {0, -1, MIN}) {
             illegal("size " + s, () -> x.take(0, s, 0, 0));
         }
@@ -225,7 +133,7 @@ public final class PromiseTest {
     }
 
     private static void takeBest() {
-        RangeArenas x = one(4, 0, 400, 40, 0, 60, 100, 40, 200, 80);
+        Watched x = one(4, 0, 400, 40, 0, 60, 100, 40, 200, 80);
         is("least, lowest", x.take(0, 33, 0, 0), 100);
         is("least, next", x.take(0, 40, 0, 0), 400);
         is("a greater one", x.take(0, 40, 0, 1), 0);
@@ -241,13 +149,13 @@ public final class PromiseTest {
         is("at once, so not purged again", x.count(0, 14), 1);
         is("all numbers", x.take(0, TOP, 2, 0), NONE);
         is("that was purged", x.count(0, 14), 2);
-        RangeArenas y = one(65536, 0, 0, TOP);
+        Watched y = one(65536, 0, 0, TOP);
         is("rounded up to all numbers", y.take(0, TOP - 1, 1, 0), 0);
         is("all taken", y.count(0, 7), TOP);
     }
 
     private static void takeInstant() {
-        RangeArenas x = one(1, 0, 0, 9, 100, 15, 200, 40, 300, 8);
+        Watched x = one(1, 0, 0, 9, 100, 15, 200, 40, 300, 8);
         is("list 3, the latest", x.take(0, 8, 1, 0), 300);
         is("list 3, then the next", x.take(0, 5, 1, 0), 100);
         is("the rest of 10 is new there", x.take(0, 7, 1, 0), 105);
@@ -257,14 +165,14 @@ public final class PromiseTest {
         is("list 4 has it", x.segment(0, x.count(0, 4) - 2, 3), 4);
         is("17 needs list 5", x.take(0, 17, 1, 0), NONE);
         is("best has it", x.take(0, 17, 0, 0), 209);
-        RangeArenas y = one(4, 0, 0, 12, 100, 16, 200, 64);
+        Watched y = one(4, 0, 0, 12, 100, 16, 200, 64);
         is("by quanta: 3 quanta need list 2", y.take(0, 12, 1, 0), 100);
         is("1 quantum has list 0", y.take(0, 3, 1, 0), 112);
         is("then list 1", y.take(0, 4, 1, 0), 0);
     }
 
     private static void takeNext() {
-        RangeArenas x = one(1, 0, 10, 20, 50, 20, 90, 20);
+        Watched x = one(1, 0, 10, 20, 50, 20, 90, 20);
         is("from 0 on", x.take(0, 5, 2, 0), 10);
         is("rotor", x.count(0, 11), 15);
         is("on", x.take(0, 16, 2, 0), 50);
@@ -277,7 +185,7 @@ public final class PromiseTest {
         is("none above, so the lowest", x.take(0, 1, 2, 0), 15);
         is("fails", x.take(0, 100, 2, 0), NONE);
         is("the rotor stays", x.count(0, 11), 16);
-        RangeArenas y = one(1, 0, 0, 30);
+        Watched y = one(1, 0, 0, 30);
         y.take(0, 10, 2, 0);
         y.give(0, 0, 10, 0);
         is("a segment from below over the rotor is no one above it", y.take(0, 3, 2, 0), 0);
@@ -285,7 +193,7 @@ public final class PromiseTest {
     }
 
     private static void takeImports() {
-        RangeArenas x = one(64, 0, 0, 256);
+        Watched x = one(64, 0, 0, 256);
         x.make(8, 0, 0);
         x.make(1, 1, 0);
         is("through two arenas", x.take(2, 3, 2, 0), 0);
@@ -311,7 +219,7 @@ public final class PromiseTest {
         is("purged at the bottom", x.count(0, 14), 1);
         is("above all numbers", x.take(2, TOP + 1, 0, 0), NONE);
         is("failed here alone", x.count(2, 13) * 10 + x.count(1, 13), 21);
-        RangeArenas y = new RangeArenas();
+        Watched y = new Watched();
         y.make(1, NONE, 0);
         for (int i = 0; i < 7; i++) {
             y.make(1, i, 0);
@@ -328,7 +236,7 @@ public final class PromiseTest {
     }
 
     private static void takePurges() {
-        RangeArenas x = one(1, 2, 0, 20);
+        Watched x = one(1, 2, 0, 20);
         is("object", x.take(0, 1, 0, 0), 0);
         is("object of 2", x.take(0, 2, 0, 1), 8);
         segments(x, 0, 0, 8, 2, 8, 8, 2, 16, 4, 0);
@@ -344,7 +252,7 @@ public final class PromiseTest {
         is("purged again", x.count(0, 14), 2);
         segments(x, 0, 0, 12, 1, 12, 8, 0);
         // what a purge gives back to the source is not asked for there again
-        RangeArenas y = one(1, 0, 0, 8);
+        Watched y = one(1, 0, 0, 8);
         y.make(1, 0, 1);
         is("a slab of 4", y.take(1, 1, 0, 0), 0);
         y.give(1, 0, 1, 0);
@@ -353,7 +261,7 @@ public final class PromiseTest {
         is("all is in the source", y.count(0, 6), 8);
         is("now it is", y.take(1, 8, 0, 0), 0);
         // the source purges its own caches for an arena above
-        RangeArenas z = one(1, 1, 0, 4);
+        Watched z = one(1, 1, 0, 4);
         z.make(1, 0, 0);
         z.take(0, 1, 0, 0);
         is("no room", z.take(1, 4, 0, 0), NONE);
@@ -364,7 +272,7 @@ public final class PromiseTest {
     }
 
     private static void takeOut() {
-        RangeArenas x = one(2, 3, 0, 400);
+        Watched x = one(2, 3, 0, 400);
         is("3 quanta from a slab of 16", x.take(0, 5, 0, 0), 0);
         caches(x, 0, 3, 1, 0, 0, 0, 0, 0, 4, 1, NONE, NONE);
         is("second", x.take(0, 6, 2, 1), 6);
@@ -380,7 +288,7 @@ public final class PromiseTest {
         is("in slabs", x.count(0, 9), 96);
         is("slabs", x.count(0, 10), 3);
         // LOADED, then SPARE, then DEPOT, then the lowest in slabs
-        RangeArenas y = one(1, 1, 0, 100);
+        Watched y = one(1, 1, 0, 100);
         for (int i = 0; i < 16; i++) {
             is("object", y.take(0, 1, 0, 0), i);
         }
@@ -410,7 +318,7 @@ public final class PromiseTest {
     }
 
     private static void takeOutFails() {
-        RangeArenas x = one(1, 2, 0, 16);
+        Watched x = one(1, 2, 0, 16);
         for (int i = 0; i < 8; i++) {
             x.take(0, 1, 0, 0);
         }
@@ -426,7 +334,7 @@ public final class PromiseTest {
         is("a slab in another's place", x.take(0, 1, 0, 0), 8);
         caches(x, 0, 2, 0, 0, 0, 0, 0, 0, 0, 0, NONE, NONE);
         caches(x, 0, 1, 9, 0, 0, 0, 0, 0, 7, 2, NONE, NONE);
-        RangeArenas y = one(16, 0, 0, 64);
+        Watched y = one(16, 0, 0, 64);
         y.make(1, 0, 8);
         is("a slab of 32 by a source", y.take(1, 8, 0, 0), 0);
         is("1's slab", y.take(1, 1, 0, 0), 32);
@@ -441,29 +349,28 @@ public final class PromiseTest {
     }
 
     private static void takeWhenFull() {
-        RangeArenas x = one(1, 0, 0, 100000);
+        Watched x = chain(7);
         x.make(1, NONE, 2);
-        x.add(1, 0, 100);
-        is("an object", x.take(1, 1, 0, 0), 0);
-        x.give(1, 0, 1, 0);
-        int taken = fillTags(x);
-        is("tags", x.tags(), 39);
-        is("taken", taken, 561 - 2 - 3);
+        x.add(7, 0, 100);
+        is("an object", x.take(7, 1, 0, 0), 0);
+        x.give(7, 0, 1, 0);
+        // single numbers are taken, 0 to 41 by arena 6, 42 to 51 by arena 0
+        fillTo(x, 7, 39);
         is("full", x.take(0, 1, 0, 0), FULL);
-        is("full for a cached one too", x.take(1, 1, 0, 0), FULL);
+        is("full for a cached one too", x.take(7, 1, 0, 0), FULL);
         is("full ahead of failing", x.take(0, MAX, 0, 0), FULL);
         illegal("wrong, though full", () -> x.take(0, 0, 0, 0));
-        is("nothing was done", x.count(0, 13) + x.count(0, 14) + x.cache(1, 1, 0), 0);
-        is("giving goes on", x.give(0, 0, 1, 0), 0);
+        is("nothing was done", x.count(0, 13) + x.count(0, 14) + x.cache(7, 1, 0), 0);
+        is("giving goes on", x.give(0, 42, 1, 0), 0);
         is("no tag more by that", x.tags(), 39);
-        is("but by a merge", x.give(0, 1, 1, 0), 0);
+        is("but by a merge", x.give(0, 43, 1, 0), 0);
         is("one more", x.tags(), 40);
-        is("taking goes on", x.take(0, 1, 0, 0), 0);
+        is("taking goes on", x.take(0, 1, 0, 0), 42);
     }
 
     private static void give() {
-        promise = 5;
-        RangeArenas x = one(4, 0, 0, 100, 100, 20);
+        sentence("promise 5");
+        Watched x = one(4, 0, 0, 100, 100, 20);
         for (int i = 0; i < 5; i++) {
             x.take(0, 20, 2, 0);
         }
@@ -497,7 +404,7 @@ public final class PromiseTest {
     }
 
     private static void giveImported() {
-        RangeArenas x = one(16, 0, 0, 64);
+        Watched x = one(16, 0, 0, 64);
         x.make(4, 0, 0);
         x.make(1, 1, 0);
         is("a", x.take(2, 3, 0, 0), 0);
@@ -517,7 +424,7 @@ public final class PromiseTest {
     }
 
     private static void giveInto() {
-        RangeArenas x = one(1, 1, 0, 100);
+        Watched x = one(1, 1, 0, 100);
         for (int i = 0; i < 40; i++) {
             x.take(0, 1, 0, 0);
         }
@@ -548,7 +455,7 @@ public final class PromiseTest {
     }
 
     private static void giveObjects() {
-        RangeArenas x = one(2, 3, 0, 100);
+        Watched x = one(2, 3, 0, 100);
         x.take(0, 6, 0, 0);
         x.take(0, 6, 0, 0);
         x.take(0, 2, 0, 0);
@@ -579,8 +486,8 @@ public final class PromiseTest {
     // ---------------------------------------------------------------- 6 to 9
 
     private static void takeWithin() {
-        promise = 6;
-        RangeArenas x = one(1, 0, 3, 200);
+        sentence("promise 6");
+        Watched x = one(1, 0, 3, 200);
         is("aligned with a phase", x.takeWithin(0, 10, 8, 5, 0), 5);
         segments(x, 0, 3, 2, 0, 5, 10, 4, 15, 188, 0);
         is("least segment in which there is one", x.takeWithin(0, 1, 4, 0, 0), 4);
@@ -609,12 +516,12 @@ public final class PromiseTest {
     }
 
     private static void withinTies() {
-        RangeArenas x = one(4, 0, 400, 40, 200, 40, 100, 36, 0, 80);
+        Watched x = one(4, 0, 400, 40, 200, 40, 100, 36, 0, 80);
         is("size rounded up, the least segment", x.takeWithin(0, 33, 4, 0, 0), 100);
         is("of several the lowest", x.takeWithin(0, 40, 8, 0, 0), 200);
         is("the other", x.takeWithin(0, 40, 8, 0, 0), 400);
         is("then the next size", x.takeWithin(0, 24, 8, 0, 0), 0);
-        RangeArenas y = one(1, 0, 0, 24, 96, 12);
+        Watched y = one(1, 0, 0, 24, 96, 12);
         is("in the midst", y.takeWithin(0, 4, 16, 10, 0), 10);
         segments(y, 0, 0, 10, 0, 10, 4, 4, 14, 10, 0, 96, 12, 0);
         is("behind came later", y.segment(0, 2, 4), 0);
@@ -626,7 +533,7 @@ public final class PromiseTest {
     }
 
     private static void withinBounds() {
-        RangeArenas x = one(2, 0, 0, 100);
+        Watched x = one(2, 0, 0, 100);
         x.bounds(0, 31, 51);
         is("LOW is no multiple", x.takeWithin(0, 8, 2, 0, 0), 32);
         is("from the lowest again", x.takeWithin(0, 11, 2, 0, 0), NONE);
@@ -639,7 +546,7 @@ public final class PromiseTest {
         x.bounds(0, 0, TOP);
         is("all again: the least segment", x.takeWithin(0, 2, 2, 0, 0), 0);
         is("bounds are not for take", x.take(0, 30, 0, 0), 2);
-        RangeArenas y = one(1, 0, 0, TOP);
+        Watched y = one(1, 0, 0, TOP);
         is("all numbers", y.takeWithin(0, TOP, TOP, 0, TOP), 0);
         y.giveWithin(0, 0, TOP);
         y.bounds(0, TOP - 8, TOP);
@@ -648,7 +555,7 @@ public final class PromiseTest {
     }
 
     private static void withinPurges() {
-        RangeArenas x = one(1, 1, 0, 8);
+        Watched x = one(1, 1, 0, 8);
         x.take(0, 1, 0, 0);
         is("half is a slab", x.takeWithin(0, 8, 8, 0, 0), NONE);
         is("purged", x.count(0, 14), 1);
@@ -656,7 +563,7 @@ public final class PromiseTest {
         is("tried again", x.takeWithin(0, 7, 8, 1, 0), 1);
         is("purged again", x.count(0, 14), 2);
         segments(x, 0, 0, 1, 0, 1, 7, 4);
-        RangeArenas y = one(1, 1, 0, 9);
+        Watched y = one(1, 1, 0, 9);
         y.take(0, 1, 0, 0);
         y.give(0, 0, 1, 0);
         is("a slab was given back, yet none", y.takeWithin(0, 8, 8, 4, 0), NONE);
@@ -665,7 +572,7 @@ public final class PromiseTest {
     }
 
     private static void withinSources() {
-        RangeArenas x = one(8, 0, 0, 80);
+        Watched x = one(8, 0, 0, 80);
         x.make(1, 0, 0);
         is("no source is asked", x.takeWithin(1, 1, 1, 0, 0), NONE);
         is("nothing was imported", x.count(1, 3), 0);
@@ -679,7 +586,7 @@ public final class PromiseTest {
     }
 
     private static void withinWrong() {
-        RangeArenas x = one(4, 0, 0, 400);
+        Watched x = one(4, 0, 0, 400);
         for (int n : new int[] {0, -1, MIN}) {
             illegal("size " + n, () -> x.takeWithin(0, n, 4, 0, 0));
         }
@@ -693,8 +600,8 @@ public final class PromiseTest {
             illegal("phase " + n, () -> x.takeWithin(0, 4, 16, n, 0));
         }
         segments(x, 0, 0, 400, 0);
-        RangeArenas y = one(1, 0, 0, 100000);
-        fillTags(y);
+        Watched y = chain(7);
+        fillTo(y, 7, 39);
         is("full", y.takeWithin(0, 1, 1, 0, 0), FULL);
         is("full ahead of failing", y.takeWithin(0, MAX, 1, 0, 0), FULL);
         is("nothing was done", y.count(0, 14), 0);
@@ -702,8 +609,8 @@ public final class PromiseTest {
     }
 
     private static void giveWithin() {
-        promise = 7;
-        RangeArenas x = one(4, 0, 0, 100);
+        sentence("promise 7");
+        Watched x = one(4, 0, 0, 100);
         x.takeWithin(0, 10, 16, 4, 0);
         x.takeWithin(0, 10, 4, 0, 0);
         x.take(0, 8, 0, 0);
@@ -721,15 +628,15 @@ public final class PromiseTest {
         illegal("twice", () -> x.giveWithin(0, 4, 12));
         is("the other", x.giveWithin(0, 16, 12), 0);
         segments(x, 0, 0, 28, 0, 28, 8, 1, 36, 64, 0);
-        RangeArenas y = one(1, 4, 0, 100);
+        Watched y = one(1, 4, 0, 100);
         is("a cached size by bounds", y.takeWithin(0, 2, 1, 0, 0), 0);
         is("goes to no cache", y.giveWithin(0, 0, 2), 0);
         segments(y, 0, 0, 100, 0);
     }
 
     private static void bounds() {
-        promise = 8;
-        RangeArenas x = one(1, 0, 0, 100);
+        sentence("promise 8");
+        Watched x = one(1, 0, 0, 100);
         x.make(1, NONE, 0);
         x.add(1, 0, 100);
         x.bounds(0, 10, 20);
@@ -747,8 +654,8 @@ public final class PromiseTest {
     }
 
     private static void purge() {
-        promise = 9;
-        RangeArenas x = one(1, 0, 0, 100);
+        sentence("promise 9");
+        Watched x = one(1, 0, 0, 100);
         is("without caches", x.purge(0), 0);
         is("purged", x.count(0, 14), 1);
         x.make(1, 0, 2);
@@ -781,7 +688,7 @@ public final class PromiseTest {
 
     private static void purgeOrder() {
         // spans of a slab's size, so that all slabs come to one list and show the order
-        RangeArenas x = one(1, 2, 0, 8, 100, 8, 200, 8, 300, 8);
+        Watched x = one(1, 2, 0, 8, 100, 8, 200, 8, 300, 8);
         is("1's", x.take(0, 1, 0, 0), 300);
         is("2's", x.take(0, 2, 0, 0), 200);
         for (int i = 1; i < 8; i++) {
@@ -803,8 +710,8 @@ public final class PromiseTest {
     // ---------------------------------------------------------------- 10 to 14
 
     private static void tags() {
-        promise = 10;
-        RangeArenas x = new RangeArenas();
+        sentence("promise 10");
+        Watched x = new Watched();
         is("new", x.tags(), 600);
         x.make(1, NONE, 1);
         x.make(1, 0, 0);
@@ -835,8 +742,8 @@ public final class PromiseTest {
     }
 
     private static void count() {
-        promise = 11;
-        RangeArenas x = one(8, 2, 0, 400, 800, 80);
+        sentence("promise 11");
+        Watched x = one(8, 2, 0, 400, 800, 80);
         x.make(2, 0, 1);
         x.take(0, 20, 2, 0);
         x.take(0, 3, 0, 0);
@@ -858,8 +765,8 @@ public final class PromiseTest {
     }
 
     private static void segment() {
-        promise = 12;
-        RangeArenas x = one(4, 1, 0, 400, 400, 40);
+        sentence("promise 12");
+        Watched x = one(4, 1, 0, 400, 400, 40);
         x.make(1, 0, 0);
         x.take(0, 40, 2, 0);
         x.take(0, 4, 0, 0);
@@ -891,13 +798,13 @@ public final class PromiseTest {
             noSuch("what " + n, () -> x.segment(0, 0, n == 7 ? 9 : n));
             noArena("no arena", () -> x.segment(2, n, 0));
         }
-        RangeArenas y = one(1, 0);
+        Watched y = one(1, 0);
         noSuch("none at all", () -> y.segment(0, 0, 0));
     }
 
     private static void cache() {
-        promise = 13;
-        RangeArenas x = one(4, 3, 0, 400);
+        sentence("promise 13");
+        Watched x = one(4, 3, 0, 400);
         x.make(1, 0, 0);
         caches(x, 0, 1, 0, 0, 0, 0, 0, 0, 0, 0, NONE, NONE);
         for (int i = 0; i < 6; i++) {
@@ -923,8 +830,8 @@ public final class PromiseTest {
     }
 
     private static void where() {
-        promise = 14;
-        RangeArenas x = one(2, 3, 10, 100, 200, 20);
+        sentence("promise 14");
+        Watched x = one(2, 3, 10, 100, 200, 20);
         x.make(1, 0, 0);
         is("a slab of 16 quanta, 5 objects of 3", x.take(0, 6, 0, 0), 10);
         is("a client's", x.take(0, 20, 0, 0), 200);
@@ -960,9 +867,6 @@ public final class PromiseTest {
         segment();
         cache();
         where();
-        System.out.println(wrong == 0 ? checks + " checks are as due" : wrong + " of " + checks + " are not as due");
-        if (wrong != 0) {
-            System.exit(1);
-        }
+        finish();
     }
 }
