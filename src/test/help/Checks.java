@@ -130,17 +130,15 @@ abstract class Checks {
         return x;
     }
 
-    /** Takes from a chain, by its upper end as long as that may be, until so many TAGS are left. */
+    /** Takes from a chain until so many TAGS are left; the takes of many come last, as they may go below 40. */
     static void fillTo(Watched x, int arenas, int left) {
         int eachTake = 2 * arenas - 1;
-        int now = x.tags();
-        while (now - eachTake >= left) {
-            x.take(arenas - 1, 1, BEST, 0);
-            now -= eachTake;
-        }
-        while (now > left) {
+        int need = x.tags() - left;
+        for (int i = 0; i < need % eachTake; i++) {
             x.take(0, 1, BEST, 0);
-            now--;
+        }
+        for (int i = 0; i < need / eachTake; i++) {
+            x.take(arenas - 1, 1, BEST, 0);
         }
         is("tags left", x.tags(), left);
     }
