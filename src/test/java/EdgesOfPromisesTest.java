@@ -450,6 +450,11 @@ public final class EdgesOfPromisesTest extends Checks {
             illegal("phase 8 of 8", () -> x.takeWithin(0, 8, 8, 8, 0));
             illegal("a wrong phase, and too large", () -> x.takeWithin(0, MAX, 8, 8, 0));
         });
+        for (int phase : new int[] {-2, -1, 4, 5}) {
+            illegal("phase " + phase + " of 4, each number a multiple of the QUANTUM",
+                () -> one(1, 0, 0, 80).takeWithin(0, 1, 4, phase, 0));
+        }
+        is("phase is the last below align", one(1, 0, 0, 80).takeWithin(0, 1, 4, 3, 0), 3);
         is("align and cross are the QUANTUM", one(8, 0, 80, 8).takeWithin(0, 1, 8, 0, 8), 80);
         is("align is 1", one(1, 0, 80, 8).takeWithin(0, 1, 1, 0, 1), 80);
         is("phase is a QUANTUM below align", one(8, 0, 80, 80).takeWithin(0, 1, 32, 24, 0), 88);

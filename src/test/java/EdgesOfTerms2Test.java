@@ -293,6 +293,15 @@ public final class EdgesOfTerms2Test extends Checks {
         }
         is("seven arenas", x.take(6, 65536, BEST, 0), 0);
         is("the eighth has nothing of it", x.count(7, 3), 0);
+        Watched slab = chain(7);
+        slab.make(1, 6, 1);
+        is("a SLAB through all", slab.take(7, 1, BEST, 0), 0);
+        for (int a = 1; a < 8; a++) {
+            is("arena " + a + " has 4 numbers", slab.segment(a, 0, 1), 4);
+        }
+        give(slab, 7, 0, 1);
+        is("purged", slab.purge(7), 1);
+        segments(slab, 0, 0, 100000, 0);
     }
 
     // ---------------------------------------------------------------- failing
